@@ -167,16 +167,17 @@ public final class NineBars {
         spare.become(told);
         int opened = spare.isOpened() ? -2 : NONE;
         int why = 0;
-        int place = 0;
-        while (place < verse.many && why == 0) {
-            why = spare.makeNumber(verse.numbers[place]);
-            if (why == 0) {
-                opened = opened == NONE && spare.isOpened() ? place : opened;
-                place++;
+        int bad = NONE;
+        for (int i = 0; i < verse.many && why == 0; i++) {
+            why = spare.makeNumber(verse.numbers[i]);
+            if (why != 0) {
+                bad = i;
+            } else if (opened == NONE && spare.isOpened()) {
+                opened = i;
             }
         }
         switch (what) {
-            case 0: return why == 0 ? NONE : place;
+            case 0: return bad;
             case 1: return why;
             case 2: return spare.isOpened() ? 1 : 0;
             default: return opened;
@@ -241,7 +242,7 @@ public final class NineBars {
 
     public long ways() throws IllegalStateException {
         needGraph();
-        return counter.waysTo(graph, fromNow(), graph.openStand);
+        return counter.waysToOpen(graph, fromNow());
     }
 
     public int farthest(int what) throws IllegalStateException, IllegalArgumentException {
@@ -365,7 +366,7 @@ public final class NineBars {
         if (verse.many < 1) {
             throw new IllegalArgumentException("not 1 to 40 numbers");
         }
-        return counter.versesAsTold(graph, fromNow(), verse);
+        return counter.versesAsTold(graph, told.standOf(told.at), verse);
     }
 
     public long keeps(int n, int what) throws IllegalArgumentException, IllegalStateException {
@@ -410,14 +411,14 @@ public final class NineBars {
             throw new IllegalArgumentException("n is 0 to 20");
         }
         needGraph();
-        Paths paths = fromNow();
-        long all = counter.rowsOf(graph, paths, n, NONE);
-        return opening ? all - counter.rowsOf(graph, paths, n, graph.openStand) : all;
+        int now = told.standOf(told.at);
+        long all = counter.rowsFrom(graph, now, n, NONE);
+        return opening ? all - counter.rowsFrom(graph, now, n, graph.openStand) : all;
     }
 
     public int keys() throws IllegalStateException {
         needGraph();
-        return game.turnsToOpen(graph, fromNow(), told.standOf(told.at));
+        return game.turnsToOpen(graph, told.standOf(told.at));
     }
 
     // ---- trays, images
@@ -800,10 +801,14 @@ public final class NineBars {
             return bits;
         }
 
+        private static int digit(int[] row, int b) {
+            return b >= 0 && b < row.length ? row[b] : NONE;
+        }
+
         boolean holdsIn(int r, int[] row) {
             int first = r * MOST_FACTS;
             for (int f = first; f < first + ruleFacts[r]; f++) {
-                boolean there = row[factBars[f]] == factPlaces[f];
+                boolean there = digit(row, factBars[f]) == factPlaces[f];
                 if (there == (factNots[f] == 1)) {
                     return false;
                 }
@@ -836,7 +841,7 @@ public final class NineBars {
             int ruled = 0;
             int holding = 0;
             for (int r = 0; r < rules; r++) {
-                if (row[ruleBars[r]] == ruleFroms[r]) {
+                if (digit(row, ruleBars[r]) == ruleFroms[r]) {
                     int bit = (ruleTos[r] > ruleFroms[r] ? 2 : 1) << (2 * ruleBars[r]);
                     ruled |= bit;
                     holding |= holdsIn(r, row) ? bit : 0;
@@ -945,10 +950,13 @@ public final class NineBars {
             start = pos;
             if (pos >= length) {
                 kind = END;
-            } else if (isLetter(text[pos])) {
-                readLetters();
-            } else if (isDigit(text[pos])) {
-                readDigits();
+            } else if (runEnd('a', 'z') > start) {
+                kind = WORD;
+                pos = runEnd('a', 'z');
+            } else if (runEnd('0', '9') > start) {
+                kind = NUMBER;
+                pos = runEnd('0', '9');
+                readValue();
             } else if (text[pos] == ';') {
                 kind = SIGN;
                 pos++;
@@ -958,32 +966,25 @@ public final class NineBars {
             }
         }
 
-        private void readLetters() {
-            kind = WORD;
-            while (pos < length && isLetter(text[pos])) {
-                pos++;
+        /** Where the signs from least to most end that stand at the place. */
+        private int runEnd(char least, char most) {
+            int end = pos;
+            while (end < length && text[end] >= least && text[end] <= most) {
+                end++;
             }
+            return end;
         }
 
-        private void readDigits() {
-            kind = NUMBER;
+        private void readValue() {
             value = 0;
-            while (pos < length && isDigit(text[pos])) {
-                value = pos - start < 3 ? value * 10 + text[pos] - '0' : value;
-                pos++;
-            }
             if (pos - start > 3) {
                 kind = BAD;
                 blame(1);
+                return;
             }
-        }
-
-        private static boolean isLetter(byte sign) {
-            return sign >= 'a' && sign <= 'z';
-        }
-
-        private static boolean isDigit(byte sign) {
-            return sign >= '0' && sign <= '9';
+            for (int i = start; i < pos; i++) {
+                value = value * 10 + text[i] - '0';
+            }
         }
 
         /** Whether the token at hand is this word. */
@@ -1224,7 +1225,11 @@ public final class NineBars {
         }
 
         boolean goesFrom(int s, int v) {
-            return s >= 0 && s < stands && v >= 0 && v < steps && (goes[s] >> v & 1) == 1;
+            return v >= 0 && v < steps && (stepsFrom(s) >> v & 1) == 1;
+        }
+
+        int stepsFrom(int s) {
+            return s >= 0 && s < stands ? goes[s] : 0;
         }
 
         /** The stand behind a step that goes. */
@@ -1286,9 +1291,13 @@ public final class NineBars {
                 if (back) {
                     visitAhead(g, goes, s);
                 } else {
-                    visit(g, s, goes[s], far[s] + 1);
+                    visit(g, s, maskOf(g, goes, s), farOf(s) + 1);
                 }
             }
+        }
+
+        private static int maskOf(Graph g, int[] goes, int s) {
+            return s >= 0 && s < g.stands && s < goes.length ? goes[s] : 0;
         }
 
         private void begin(Graph g, int stand) {
@@ -1323,8 +1332,8 @@ public final class NineBars {
         private void visitAhead(Graph g, int[] goes, int s) {
             for (int v = 0; v < g.steps; v++) {
                 int from = s - g.shift[v];
-                if (from >= 0 && from < g.stands && (goes[from] >> v & 1) == 1) {
-                    take(from, far[s] + 1);
+                if ((maskOf(g, goes, from) >> v & 1) == 1) {
+                    take(from, farOf(s) + 1);
                 }
             }
         }
@@ -1346,7 +1355,7 @@ public final class NineBars {
 
         int manyWithin(int n) {
             int found = 0;
-            while (found < many && far[order[found]] <= n) {
+            while (found < many && farOf(order[found]) <= n) {
                 found++;
             }
             return found;
@@ -1382,14 +1391,14 @@ public final class NineBars {
             int first = 0;
             for (int round = 0; round <= g.stands && first < many; round++) {
                 for (int head = first; head < g.stands && head < many; head++) {
-                    visit(g, order[head], g.goes[order[head]] & ~own, round);
+                    visit(g, order[head], g.stepsFrom(order[head]) & ~own, round);
                 }
                 if (farOf(g.openStand) != NONE) {
                     return farOf(g.openStand);
                 }
                 int end = many;
                 for (int i = first; i < end; i++) {
-                    visit(g, order[i], g.goes[order[i]] & own, round + 1);
+                    visit(g, order[i], g.stepsFrom(order[i]) & own, round + 1);
                 }
                 first = end;
             }
@@ -1397,30 +1406,29 @@ public final class NineBars {
         }
     }
 
-    /** Counts rows of steps, stand by stand. */
+    /** Counts rows of steps, by the stands they lead to. */
     private static final class Counter {
         private long[] here = new long[0];
         private long[] next = new long[0];
 
-        private void begin(Graph g, Paths from) {
+        private void begin(Graph g, int stand) {
             here = grownLong(here, g.stands, MOST_STANDS);
             next = grownLong(next, g.stands, MOST_STANDS);
-            for (int i = 0; i < from.many; i++) {
-                here[from.order[i]] = i == 0 ? 1 : 0;
+            for (int s = 0; s < g.stands && s < here.length; s++) {
+                here[s] = s == stand ? 1 : 0;
             }
         }
 
         /** All rows are led on by each of these steps that goes, but none into the stand that is shut. */
-        private void leadOn(Graph g, Paths from, int steps, int shutStand) {
-            for (int i = 0; i < from.many; i++) {
-                next[from.order[i]] = 0;
+        private void leadOn(Graph g, int steps, int shutStand) {
+            for (int s = 0; s < g.stands && s < next.length; s++) {
+                next[s] = 0;
             }
-            for (int i = 0; i < from.many; i++) {
-                int s = from.order[i];
-                int mask = here[s] == 0 ? 0 : g.goes[s] & steps;
+            for (int s = 0; s < g.stands && s < here.length; s++) {
+                int mask = here[s] == 0 ? 0 : g.stepsFrom(s) & steps;
                 for (int v = 0; v < g.steps && mask >> v != 0; v++) {
                     int t = s + g.shift[v];
-                    if ((mask >> v & 1) == 1 && t != shutStand && t >= 0 && t < g.stands) {
+                    if ((mask >> v & 1) == 1 && t != shutStand && t >= 0 && t < next.length) {
                         next[t] += here[s];
                     }
                 }
@@ -1430,47 +1438,52 @@ public final class NineBars {
             next = old;
         }
 
-        /** Rows of n steps that are never in the stand that is shut. */
-        long rowsOf(Graph g, Paths from, int n, int shutStand) {
-            if (from.farOf(shutStand) == 0) {
+        /** Rows of n steps from a stand that are never in the one that is shut. */
+        long rowsFrom(Graph g, int stand, int n, int shutStand) {
+            if (stand == shutStand) {
                 return 0;
             }
-            begin(g, from);
+            begin(g, stand);
             for (int i = 0; i < n; i++) {
-                leadOn(g, from, ALL_STEPS, shutStand);
+                leadOn(g, ALL_STEPS, shutStand);
             }
             long all = 0;
-            for (int i = 0; i < from.many; i++) {
-                all += here[from.order[i]];
+            for (int s = 0; s < g.stands && s < here.length; s++) {
+                all += here[s];
             }
             return all;
         }
 
-        /** Verses to OPEN whose lines are as in a tray. */
-        long versesAsTold(Graph g, Paths from, Tray verse) {
-            begin(g, from);
+        /** Verses from a stand to OPEN whose lines are as in a tray. */
+        long versesAsTold(Graph g, int stand, Tray verse) {
+            begin(g, stand);
             for (int i = 0; i < verse.many; i++) {
                 long v = verse.numbers[i];
                 int steps = v >= 0 && v < g.steps ? 1 << (int) v : 0;
-                leadOn(g, from, v == NONE ? ALL_STEPS : steps, NONE);
+                leadOn(g, v == NONE ? ALL_STEPS : steps, NONE);
             }
-            return from.farOf(g.openStand) == NONE ? 0 : here[g.openStand];
+            return rowsAt(g.openStand);
         }
 
-        /** Shortest verses to a stand: stands come by their distance, so that each is whole when it is led on. */
-        long waysTo(Graph g, Paths from, int goal) {
-            begin(g, from);
+        private long rowsAt(int s) {
+            return s >= 0 && s < here.length ? here[s] : 0;
+        }
+
+        /** Shortest verses to OPEN: stands come by their distance, so that each is whole when it is led on. */
+        long waysToOpen(Graph g, Paths from) {
+            begin(g, from.source);
             for (int i = 0; i < from.many; i++) {
                 int s = from.order[i];
-                int mask = g.goes[s];
+                int mask = g.stepsFrom(s);
                 for (int v = 0; v < g.steps && mask >> v != 0; v++) {
                     int t = s + g.shift[v];
-                    if ((mask >> v & 1) == 1 && from.farOf(t) == from.farOf(s) + 1) {
-                        here[t] += here[s];
+                    boolean goes = (mask >> v & 1) == 1;
+                    if (goes && t >= 0 && t < here.length && from.farOf(t) == from.farOf(s) + 1) {
+                        here[t] += rowsAt(s);
                     }
                 }
             }
-            return from.farOf(goal) == NONE ? 0 : here[goal];
+            return rowsAt(g.openStand);
         }
     }
 
@@ -1482,31 +1495,28 @@ public final class NineBars {
         private int many;
 
         /** From OPEN back, by turns: the first is done with one good step, the other when the last of his is bad. */
-        int turnsToOpen(Graph g, Paths from, int stand) {
-            begin(g, from);
-            if (from.farOf(g.openStand) != NONE) {
-                settle(2 * g.openStand, 0);
-                settle(2 * g.openStand + 1, 0);
-            }
-            for (int i = 0; i < 2 * g.stands && i < many && turnsOf(2 * stand) == NONE; i++) {
-                int node = settled[i];
-                if (turns[node] < MOST_TURNS) {
-                    settleAhead(g, from, node);
+        int turnsToOpen(Graph g, int stand) {
+            begin(g);
+            settle(2 * g.openStand, 0);
+            settle(2 * g.openStand + 1, 0);
+            for (int i = 0; i < settled.length && i < many && turnsOf(2 * stand) == NONE; i++) {
+                if (turnsOf(settled[i]) < MOST_TURNS) {
+                    settleAhead(g, settled[i]);
                 }
             }
             return turnsOf(2 * stand);
         }
 
-        private void begin(Graph g, Paths from) {
+        private void begin(Graph g) {
             turns = grown(turns, 2 * g.stands, 2 * MOST_STANDS);
             left = grown(left, g.stands, MOST_STANDS);
             settled = grown(settled, 2 * g.stands, 2 * MOST_STANDS);
             many = 0;
-            for (int i = 0; i < from.many; i++) {
-                int s = from.order[i];
-                turns[2 * s] = NONE;
-                turns[2 * s + 1] = NONE;
-                left[s] = Integer.bitCount(g.goes[s]);
+            for (int s = 0; s < g.stands && s < left.length; s++) {
+                left[s] = Integer.bitCount(g.stepsFrom(s));
+            }
+            for (int node = 0; node < 2 * g.stands && node < turns.length; node++) {
+                turns[node] = NONE;
             }
         }
 
@@ -1515,31 +1525,41 @@ public final class NineBars {
         }
 
         private void settle(int node, int after) {
-            if (turnsOf(node) == NONE && node >= 0 && node < turns.length && many < settled.length) {
+            if (node >= 0 && node < turns.length && turns[node] == NONE && many < settled.length) {
                 turns[node] = after;
                 settled[many] = node;
                 many++;
             }
         }
 
-        private void settleAhead(Graph g, Paths from, int node) {
+        /** Settles whom a step, or passing, leads to this node. */
+        private void settleAhead(Graph g, int node) {
             int s = node >> 1;
-            int after = turns[node] + 1;
+            int after = turnsOf(node) + 1;
             boolean othersAhead = (node & 1) == 0;
-            if (g.goes[s] == 0) {
+            if (g.stepsFrom(s) == 0) {
                 settle(node ^ 1, after);
             }
             for (int v = 0; v < g.steps; v++) {
                 int t = s - g.shift[v];
-                if (g.goesFrom(t, v) && from.farOf(t) != NONE) {
-                    left[t] -= othersAhead ? 1 : 0;
-                    if (!othersAhead) {
-                        settle(2 * t, after);
-                    } else if (left[t] == 0) {
-                        settle(2 * t + 1, after);
-                    }
+                if (!g.goesFrom(t, v)) {
+                    continue;
+                }
+                if (!othersAhead) {
+                    settle(2 * t, after);
+                } else if (isLastOf(t)) {
+                    settle(2 * t + 1, after);
                 }
             }
+        }
+
+        /** One step less that the other may hope for from a stand: whether it was the last. */
+        private boolean isLastOf(int s) {
+            if (s < 0 || s >= left.length) {
+                return false;
+            }
+            left[s]--;
+            return left[s] == 0;
         }
     }
 

@@ -13,7 +13,7 @@ public final class ModelTest {
     public static void main(String[] args) {
         int runs = args.length > 0 ? Integer.parseInt(args[0]) : 400;
         long seed = args.length > 1 ? Long.parseLong(args[1]) : 0;
-        for (int run = 0; run < runs && wrong < 10; run++) {
+        for (int run = 0; run < runs && wrong == 0; run++) {
             run(new Random(seed + run), run % 4);
         }
         System.out.println("ModelTest: " + calls + " calls, " + thrown + " thrown, " + wrong + " wrong");
@@ -42,7 +42,7 @@ public final class ModelTest {
         log.append(call).append(" -> ").append(got).append('\n');
         if (!got.equals(want)) {
             wrong++;
-            System.out.println(log + "WRONG: " + call + " answered " + got + ", due is " + want + "\n");
+            System.out.println(log.substring(Math.max(0, log.length() - 3000)) + "WRONG: " + call + " answered " + got + ", due is " + want + "\n");
             log.setLength(0);
         }
     }
