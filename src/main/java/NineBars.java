@@ -136,7 +136,7 @@ public final class NineBars {
     public int placeIn(int stand, int b) throws NoSuchElementException, IllegalStateException {
         needBar(b);
         needStand(stand);
-        needGraph();
+        needFew();
         return told.placeOf(stand, b);
     }
 
@@ -512,11 +512,15 @@ public final class NineBars {
         }
     }
 
-    /** Refuses a box that is SPENT, else makes the graph fit it. */
-    private void needGraph() {
+    private void needFew() {
         if (isSpent()) {
             throw new IllegalStateException("more than 20,000 stands");
         }
+    }
+
+    /** Refuses a box that is SPENT, else makes the graph fit it. */
+    private void needGraph() {
+        needFew();
         graph.prepare(told);
     }
 
@@ -600,7 +604,7 @@ public final class NineBars {
     private void findFits(int step, int tray) {
         needBar(step >> 1);
         Tray row = needTray(tray);
-        needGraph();
+        needFew();
         if (!row.allBelow(2L * told.standCount())) {
             throw new IllegalArgumentException("a number that tells of no stand");
         }
@@ -948,42 +952,28 @@ public final class NineBars {
                 pos++;
             }
             start = pos;
-            if (pos >= length) {
+            value = 0;
+            int first = pos < length ? text[pos] : 0;
+            boolean word = first >= 'a' && first <= 'z';
+            int least = word ? 'a' : '0';
+            int most = word ? 'z' : '9';
+            while (pos < length && text[pos] >= least && text[pos] <= most) {
+                value = value * 10 + text[pos] - '0';
+                pos++;
+            }
+            if (start >= length) {
                 kind = END;
-            } else if (runEnd('a', 'z') > start) {
+            } else if (word) {
                 kind = WORD;
-                pos = runEnd('a', 'z');
-            } else if (runEnd('0', '9') > start) {
+            } else if (pos > start && pos - start <= 3) {
                 kind = NUMBER;
-                pos = runEnd('0', '9');
-                readValue();
-            } else if (text[pos] == ';') {
+            } else if (first == ';') {
                 kind = SIGN;
                 pos++;
             } else {
                 kind = BAD;
-                blame(1);
-            }
-        }
-
-        /** Where the signs from least to most end that stand at the place. */
-        private int runEnd(char least, char most) {
-            int end = pos;
-            while (end < length && text[end] >= least && text[end] <= most) {
-                end++;
-            }
-            return end;
-        }
-
-        private void readValue() {
-            value = 0;
-            if (pos - start > 3) {
-                kind = BAD;
-                blame(1);
-                return;
-            }
-            for (int i = start; i < pos; i++) {
-                value = value * 10 + text[i] - '0';
+                fault = 1;
+                faultAt = start;
             }
         }
 

@@ -139,6 +139,8 @@ public final class PromisesTest {
         due("later ones strike", () -> Boxes.tell(y, "bar 2;bar 2;bar 2;nested 2;nested 3;wear 5;wear 0;"), 7);
         due("nested", () -> y.count(3), 3);
         due("wear", () -> y.count(4), 0);
+        due("two figures", () -> Boxes.tell(y, "wear 97;"), 1);
+        due("97", () -> y.count(4), 97);
         due("no blanks between", () -> Boxes.tell(y, "bar2at1;"), 1);
         Boxes.feed(y, "bar 2;bar 2;");
         due("the first n bytes", () -> y.box(6), 1);
@@ -250,6 +252,7 @@ public final class PromisesTest {
         due("spent", big::stand, -1000);
         NineBars edge = Boxes.told("bar 4;bar 4;bar 4;bar 4;bar 4;bar 4;bar 4 at 3;");
         due("16,384 aren't too many", edge::stand, 3 * 4096);
+        due("20,736 are", () -> Boxes.told("bar 4;bar 4;bar 4;bar 4;bar 3;bar 3;bar 3;bar 3;").stand(), -1000);
         promise = 8;
         due("place", () -> x.placeIn(23, 1), 3);
         due("place", () -> x.placeIn(11, 2), 0);
@@ -341,6 +344,8 @@ public final class PromisesTest {
         due("never", () -> x.judge(2, 3), -1);
         Boxes.lay(x, 2, 3, 1L << 32, 1);
         due("no step, not cut", () -> x.judge(2, 0), 0);
+        Boxes.lay(x, 2, 3, (1L << 33) + 1);
+        due("no step, not cut", () -> x.judge(2, 1), 1);
         Boxes.lay(x, 2, 3, -1);
         due("no step", () -> x.judge(2, 1), 1);
         Boxes.lay(x, 2, 3);
@@ -634,8 +639,16 @@ public final class PromisesTest {
         refused("m", () -> x.hardest(1000, 0), ARGUMENT);
         refused("what", () -> x.hardest(1, 7), ARGUMENT);
         refused("what", () -> x.hardest(1, -1), ARGUMENT);
-        NineBars many = Boxes.told("bar 4;bar 4;bar 4;bar 4;bar 3;");
-        refused("768 stands", () -> many.hardest(1, 0), STATE);
+        // bar 0 must go up twice, with bar 1 at 1, then at 2: one rule more for it can be of not 0 alone
+        NineBars twice = Boxes.told("bar 2;bar 3;bar 2;rule 1 1 to 2 if 0 at 0 and 2 at 1;rule 1 2 to 1 if 0 at 0 and 0 at 1;"
+                + "rule 1 1 to 0 if 0 at 0 and 0 at 1;rule 2 0 to 1 if 0 at 1 and 1 at 1;");
+        long[] not = {6, 0, 0, 1, 1, 1, 0};
+        for (int i = 0; i < not.length; i++) {
+            int what = i;
+            due("not, " + i, () -> twice.hardest(6, what), not[what]);
+        }
+        NineBars many = Boxes.told("bar 4;bar 2;bar 3;bar 3;bar 3;bar 3;");
+        refused("648 stands", () -> many.hardest(1, 0), STATE);
         refused("what first", () -> many.hardest(1, 7), ARGUMENT);
         due("576 stands", () -> Boxes.told("bar 4;bar 4;bar 4;bar 3;bar 3;").hardest(20, 0), 13);
     }
@@ -649,11 +662,19 @@ public final class PromisesTest {
         due("longer ones, open ahead or not", () -> x.known(0), 8);
         Boxes.lay(x, 0, 0, 3, -1);
         due("one known", () -> x.known(0), 1);
+        Boxes.lay(x, 0, 0, 1, 0, -1, -1);
+        due("up and down known", () -> x.known(0), 2);
+        x.step(0, true);
+        Boxes.lay(x, 0, 0, -1);
+        due("one number", () -> x.known(0), 1);
+        x.step(0, false);
         Boxes.lay(x, 0, 0, 2, -1);
         due("doesn't go", () -> x.known(0), 0);
         Boxes.lay(x, 0, 0, 3, 77);
         due("no step", () -> x.known(0), 0);
-        Boxes.lay(x, 0, 3, 1L << 32, -1);
+        Boxes.lay(x, 0, 3, (1L << 32) + 1, -1);
+        due("no step", () -> x.known(0), 0);
+        Boxes.lay(x, 0, 3, (1L << 33) + 1, -1);
         due("no step", () -> x.known(0), 0);
         Boxes.lay(x, 0, 0, -2, -1);
         due("no step, and not NONE", () -> x.known(0), 0);
