@@ -1,57 +1,10 @@
-import java.util.NoSuchElementException;
-
 /** At least one test for each promise: ordinary inputs, edges, wrong inputs. */
-public final class PromisesTest {
-    private interface Call {
-        long answer();
-    }
-
-    private static final String NO_SUCH = "java.util.NoSuchElementException";
-    private static final String STATE = "java.lang.IllegalStateException";
-    private static final String ARGUMENT = "java.lang.IllegalArgumentException";
-    private static final String INDEX = "java.lang.IndexOutOfBoundsException";
-
+public final class PromisesTest extends Check {
     /** 0 -> 1 only with bar 1 at 1, 1 -> 2 only with bar 1 at 0: opens by up1 up0 down1 up0 up1. */
     private static final String LOCK = "bar 3;bar 2;rule 0 0 to 1 if 1 at 1;rule 0 1 to 2 if 1 at 0;";
     private static final String RINGS = "bar 2;bar 2;bar 2;nested 3;";
     private static final String BIG = "bar 4;bar 4;bar 4;bar 4;bar 4;bar 4;bar 4;bar 4;";
     private static final String FREE = "bar 2;bar 2;";
-
-    private static int wrong = 0;
-    private static int asked = 0;
-    private static int promise = 0;
-
-    private static void due(String what, Call call, long want) {
-        asked++;
-        try {
-            long got = call.answer();
-            if (got != want) {
-                blame(what, Long.toString(got), Long.toString(want));
-            }
-        } catch (RuntimeException e) {
-            blame(what, e.toString(), Long.toString(want));
-        }
-    }
-
-    private static void refused(String what, Call call, String want) {
-        asked++;
-        try {
-            blame(what, Long.toString(call.answer()), want);
-        } catch (RuntimeException e) {
-            if (!e.getClass().getName().equals(want)) {
-                blame(what, e.toString(), want);
-            }
-        }
-    }
-
-    private static void blame(String what, String got, String want) {
-        wrong++;
-        System.out.println("promise " + promise + ": " + what + ": " + got + ", due is " + want);
-    }
-
-    private static long is(boolean b) {
-        return b ? 1 : 0;
-    }
 
     private static long tray(NineBars x, int tray, int sort, int many) {
         x.tray(tray, sort, many);
@@ -94,14 +47,11 @@ public final class PromisesTest {
         images();
         counts();
         room();
-        System.out.println("PromisesTest: " + asked + " asked, " + wrong + " wrong");
-        if (wrong != 0) {
-            System.exit(1);
-        }
+        end("PromisesTest");
     }
 
     private static void theBox() {
-        promise = 1;
+        about("promise 1");
         NineBars x = new NineBars();
         due("no bars", () -> x.count(1), 0);
         due("empty tape", () -> x.count(7), 0);
@@ -112,7 +62,7 @@ public final class PromisesTest {
         }
         due("NONE", () -> NineBars.NONE, -1);
         due("SPENT", () -> NineBars.SPENT, -1000);
-        promise = 2;
+        about("promise 2");
         for (int i = 1; i <= 45; i++) {
             int many = 20 * i;
             due("feed", () -> x.feed(0, 0, 0, 0, 0), many);
@@ -123,7 +73,7 @@ public final class PromisesTest {
         z.feed(('b' << 24) + ('a' << 16) + ('r' << 8) + ' ', ('3' << 24) + (';' << 16) + (' ' << 8) + ' ', -1, -1, -1);
         due("highest byte first", () -> z.box(8), 1);
         due("places", () -> z.bar(0, 0), 3);
-        promise = 3;
+        about("promise 3");
         refused("more than it has", () -> x.box(901), ARGUMENT);
         refused("below 0", () -> x.box(-1), ARGUMENT);
         due("a throw changes nothing", () -> x.count(7), 900);
@@ -155,7 +105,7 @@ public final class PromisesTest {
     }
 
     private static void faults() {
-        promise = 4;
+        about("promise 4");
         NineBars x = new NineBars();
         due("at first", () -> x.fault(0), 0);
         due("no place at first", () -> x.fault(1), -1);
@@ -208,7 +158,7 @@ public final class PromisesTest {
     }
 
     private static void bars() {
-        promise = 5;
+        about("promise 5");
         NineBars x = Boxes.told("bar 4 at 1 open 2;bar 2;rule 0 1 to 2 if 1 at 1;rule 0 0 to 1 if 1 at 0;wear 1;");
         long[] want = {4, 1, 2, 0, 0, 2};
         for (int i = 0; i < want.length; i++) {
@@ -226,7 +176,7 @@ public final class PromisesTest {
         NineBars never = Boxes.told("bar 2;wear 0;");
         never.step(0, true);
         due("never worn", () -> never.bar(0, 4), 0);
-        promise = 6;
+        about("promise 6");
         NineBars y = Boxes.told("bar 4;bar 2;bar 2;rule 0 2 to 1 if 1 at 1 and 2 not 1;rule 1 0 to 1 if 0 at 0;");
         long[] rule = {0, 2, 1, 2, 0};
         for (int i = 0; i < rule.length; i++) {
@@ -245,7 +195,7 @@ public final class PromisesTest {
     }
 
     private static void stands() {
-        promise = 7;
+        about("promise 7");
         NineBars x = Boxes.told("bar 3 at 2;bar 4 at 1;bar 2 at 1;");
         due("stand", x::stand, 2 + 3 * 1 + 12 * 1);
         NineBars big = Boxes.told(BIG);
@@ -253,7 +203,7 @@ public final class PromisesTest {
         NineBars edge = Boxes.told("bar 4;bar 4;bar 4;bar 4;bar 4;bar 4;bar 4 at 3;");
         due("16,384 aren't too many", edge::stand, 3 * 4096);
         due("20,736 are", () -> Boxes.told("bar 4;bar 4;bar 4;bar 4;bar 3;bar 3;bar 3;bar 3;").stand(), -1000);
-        promise = 8;
+        about("promise 8");
         due("place", () -> x.placeIn(23, 1), 3);
         due("place", () -> x.placeIn(11, 2), 0);
         refused("bar", () -> x.placeIn(0, 3), NO_SUCH);
@@ -261,7 +211,7 @@ public final class PromisesTest {
         refused("stand", () -> x.placeIn(-1, 0), NO_SUCH);
         refused("spent", () -> big.placeIn(0, 0), STATE);
         refused("bar ahead of spent", () -> big.placeIn(0, 8), NO_SUCH);
-        promise = 9;
+        about("promise 9");
         due("without bars", () -> is(new NineBars().isOpen()), 1);
         due("not open", () -> is(x.isOpen()), 0);
         NineBars y = Boxes.told("bar 3 at 1 open 1;bar 2 open 0;");
@@ -270,7 +220,7 @@ public final class PromisesTest {
     }
 
     private static void reasons() {
-        promise = 10;
+        about("promise 10");
         NineBars x = Boxes.told(RINGS);
         due("goes", () -> x.may(0, true), 0);
         due("no bar", () -> x.may(3, true), 1);
@@ -297,7 +247,7 @@ public final class PromisesTest {
         lock.step(1, false);
         lock.step(1, false);
         due("worn", () -> lock.may(0, true), 0);
-        promise = 12;
+        about("promise 12");
         NineBars w = Boxes.told(RINGS);
         due("the bar below", () -> w.stops(2, true), 1);
         due("goes", () -> w.stops(0, true), -1);
@@ -311,7 +261,7 @@ public final class PromisesTest {
     }
 
     private static void steps() {
-        promise = 11;
+        about("promise 11");
         NineBars x = Boxes.told(LOCK + "wear 3;");
         due("up", () -> x.step(1, true), 1);
         due("up", () -> x.step(0, true), 1);
@@ -329,7 +279,7 @@ public final class PromisesTest {
     }
 
     private static void verses() {
-        promise = 13;
+        about("promise 13");
         NineBars x = Boxes.told(RINGS);
         Boxes.lay(x, 2, 1, 1, 3, 0, 5, 1, 1);
         due("where", () -> x.judge(2, 0), 5);
@@ -366,7 +316,7 @@ public final class PromisesTest {
         NineBars open = Boxes.told("bar 2 at 1;");
         Boxes.lay(open, 0, 0, 0, 1);
         due("ahead of all", () -> open.judge(0, 3), -2);
-        promise = 14;
+        about("promise 14");
         due("all", () -> y.perform(0), 5);
         due("stand", y::stand, 1);
         due("steps", () -> y.bar(0, 3), 3);
@@ -378,7 +328,7 @@ public final class PromisesTest {
     }
 
     private static void thieves() {
-        promise = 15;
+        about("promise 15");
         // seed 1: draws 16838, 5758, 10113, 17515, 31051, 5627 (the well known row), so of two bars: 0 down, 1 up, 1 up
         NineBars x = Boxes.told("bar 2;bar 4;");
         due("first doesn't go", () -> x.thief(1, 1), 0);
@@ -400,11 +350,11 @@ public final class PromisesTest {
     private static void reach() {
         NineBars x = Boxes.told("bar 3;bar 2;rule 0 1 to 2 if 1 at 1;rule 1 0 to 1 if 0 at 2;");
         NineBars big = Boxes.told(BIG);
-        promise = 16;
+        about("promise 16");
         due("0 and 1 alone", x::reached, 2);
         due("spent", big::reached, -1000);
         due("no bars", () -> new NineBars().reached(), 1);
-        promise = 17;
+        about("promise 17");
         due("can", () -> is(x.canBe(1)), 1);
         due("this one", () -> is(x.canBe(0)), 1);
         due("can't", () -> is(x.canBe(2)), 0);
@@ -412,7 +362,7 @@ public final class PromisesTest {
         refused("stand", () -> is(x.canBe(-1)), NO_SUCH);
         refused("spent", () -> is(big.canBe(0)), STATE);
         refused("stand first", () -> is(big.canBe(65536)), NO_SUCH);
-        promise = 22;
+        about("promise 22");
         due("within 0", () -> x.within(0), 1);
         due("within 999", () -> x.within(999), 2);
         NineBars free = Boxes.told("bar 3;bar 3;");
@@ -420,7 +370,7 @@ public final class PromisesTest {
         refused("n", () -> free.within(-1), ARGUMENT);
         refused("n", () -> free.within(1000), ARGUMENT);
         refused("spent first", () -> big.within(1000), STATE);
-        promise = 23;
+        about("promise 23");
         NineBars y = Boxes.told("bar 2 at 1;bar 2;rule 0 0 to 1 if 1 at 1;rule 1 0 to 1 if 0 at 1;");
         y.step(0, false);
         due("not from now", () -> is(y.canBe(1)), 0);
@@ -431,7 +381,7 @@ public final class PromisesTest {
         NineBars z = Boxes.told("bar 2;bar 2;rule 0 0 to 1 if 1 at 1;rule 1 1 to 0 if 0 at 1;wear 1;");
         z.step(1, true);
         due("bar 1 worn as now", () -> is(z.fromStart(3)), 1);
-        promise = 25;
+        about("promise 25");
         due("there, not back", y::oneWays, 0);
         NineBars one = Boxes.told("bar 2;bar 2;rule 0 0 to 1 if 1 at 1;");
         due("0 goes down with 1 at 0, not back", () -> {
@@ -442,7 +392,7 @@ public final class PromisesTest {
     }
 
     private static void shortest() {
-        promise = 18;
+        about("promise 18");
         NineBars x = Boxes.told(LOCK);
         long[] verse = {3, 1, 2, 1, 3};
         due("steps", () -> x.shortest(0, 5, -1), 5);
@@ -466,7 +416,7 @@ public final class PromisesTest {
         refused("to", () -> x.shortest(0, -1, -1), NO_SUCH);
         refused("spent", () -> big.shortest(0, 0, -1), STATE);
         refused("to first", () -> big.shortest(0, 65536, -1), NO_SUCH);
-        promise = 19;
+        about("promise 19");
         due("steps", () -> x.opening(-1), 5);
         due("first", () -> x.opening(0), 3);
         due("last", () -> x.opening(4), 3);
@@ -478,7 +428,7 @@ public final class PromisesTest {
         x.step(1, true);
         due("from now", () -> x.opening(-1), 4);
         due("from now", () -> x.opening(0), 1);
-        promise = 20;
+        about("promise 20");
         NineBars y = Boxes.told("bar 4;bar 3;bar 2;");
         due("6! / 3! 2! 1!", y::ways, 60);
         due("none", none::ways, 0);
@@ -490,7 +440,7 @@ public final class PromisesTest {
     }
 
     private static void farthest() {
-        promise = 21;
+        about("promise 21");
         NineBars x = Boxes.told(RINGS);
         due("steps", () -> x.farthest(0), 7);
         due("stand", () -> x.farthest(1), 4);
@@ -505,7 +455,7 @@ public final class PromisesTest {
     }
 
     private static void dead() {
-        promise = 24;
+        about("promise 24");
         // bar 0 goes up always, never down again; bar 1 goes up only while 0 is at 0
         NineBars x = Boxes.told("bar 2;bar 2;rule 0 1 to 0 if 1 at 0 and 1 at 1;rule 1 0 to 1 if 0 at 0;");
         due("how many", () -> x.dead(0), 1);
@@ -517,7 +467,7 @@ public final class PromisesTest {
         refused("what", () -> x.dead(2), ARGUMENT);
         refused("what", () -> x.dead(-1), ARGUMENT);
         refused("spent first", () -> big.dead(2), STATE);
-        promise = 26;
+        about("promise 26");
         NineBars r = Boxes.told(RINGS);
         due("of bar 0", () -> r.fewestOf(0), 3);
         due("of bar 1", () -> r.fewestOf(1), 1);
@@ -537,7 +487,7 @@ public final class PromisesTest {
     }
 
     private static void musts() {
-        promise = 27;
+        about("promise 27");
         NineBars x = Boxes.told(LOCK);
         due("how many", () -> x.musts(0), 6);
         due("now", () -> x.musts(10), 0);
@@ -560,19 +510,19 @@ public final class PromisesTest {
     }
 
     private static void halves() {
-        promise = 28;
+        about("promise 28");
         NineBars x = new NineBars();
         // the first n of 5 rings as a box: to nought as told
         NineBars rings = Boxes.told("bar 2;bar 2;bar 2;bar 2;bar 2;nested 5;");
         for (int b = 0; b < 32; b++) {
             int bits = b;
-            promise = 28;
+            about("promise 28");
             due("halves of " + b, () -> x.halves(5, bits), rings.shortest(bits, 0, -1));
-            promise = 29;
+            about("promise 29");
             int first = rings.shortest(bits, 0, 0);
             due("first of " + b, () -> x.halvesFirst(5, bits), first == -1 ? -1 : first >> 1);
         }
-        promise = 28;
+        about("promise 28");
         due("30 alone", () -> x.halves(30, 1 << 29), (1 << 30) - 1);
         due("all 30", () -> x.halves(30, (1 << 30) - 1), 0x2AAAAAAA);
         due("1", () -> x.halves(1, 1), 1);
@@ -582,7 +532,7 @@ public final class PromisesTest {
         refused("bits", () -> x.halves(3, 8), ARGUMENT);
         refused("bits", () -> x.halves(30, -1), ARGUMENT);
         refused("bits", () -> x.halves(30, 1 << 30), ARGUMENT);
-        promise = 29;
+        about("promise 29");
         due("30 alone", () -> x.halvesFirst(30, 1 << 29), 0);
         due("all 30", () -> x.halvesFirst(30, (1 << 30) - 1), 1);
         due("nought", () -> x.halvesFirst(30, 0), -1);
@@ -592,7 +542,7 @@ public final class PromisesTest {
     }
 
     private static void worn() {
-        promise = 30;
+        about("promise 30");
         NineBars x = Boxes.told(LOCK);
         due("bar 0, though nothing wears", () -> x.ifWorn(0), 3);
         due("bar 1", () -> x.ifWorn(1), 5);
@@ -604,7 +554,7 @@ public final class PromisesTest {
         refused("bar", () -> x.ifWorn(2), NO_SUCH);
         refused("bar first", () -> big.ifWorn(-1), NO_SUCH);
         refused("spent", () -> big.ifWorn(0), STATE);
-        promise = 31;
+        about("promise 31");
         due("bar 0", x::weakest, 0);
         due("bar 0", none::weakest, 0);
         NineBars second = Boxes.told("bar 2;bar 3;rule 1 0 to 1 if 0 at 1;rule 1 1 to 2 if 0 at 0;");
@@ -617,7 +567,7 @@ public final class PromisesTest {
     }
 
     private static void hardest() {
-        promise = 32;
+        about("promise 32");
         // 0 can go up only where 1 is at 2: up1 up1 up0 down1 .. open is at 1 of bar 1
         NineBars x = Boxes.told("bar 2;bar 3 open 1;");
         long[] want = {4, 0, 0, 1, 1, 0, 2};
@@ -654,7 +604,7 @@ public final class PromisesTest {
     }
 
     private static void known() {
-        promise = 33;
+        about("promise 33");
         NineBars x = Boxes.told(FREE);
         Boxes.lay(x, 0, 0, -1, -1);
         due("nothing known", () -> x.known(0), 2);
@@ -700,7 +650,7 @@ public final class PromisesTest {
     }
 
     private static void keeps() {
-        promise = 34;
+        about("promise 34");
         NineBars x = Boxes.told("bar 2;bar 2;rule 1 0 to 1 if 0 at 1;");
         due("one kept: itself", () -> x.keeps(1, 0), 1);
         due("the first line", () -> x.keeps(1, 1), 0);
@@ -745,7 +695,7 @@ public final class PromisesTest {
     }
 
     private static void fits() {
-        promise = 35;
+        about("promise 35");
         NineBars x = Boxes.told("bar 2;bar 3;bar 2;");
         x.tray(0, 1, 0);
         due("all facts of two others", () -> x.fits(1, 0, -1), 10);
@@ -775,7 +725,7 @@ public final class PromisesTest {
         NineBars big = Boxes.told(BIG);
         Boxes.lay(big, 0, 0, -1);
         refused("spent ahead of numbers", () -> big.fits(0, 0, -1), STATE);
-        promise = 36;
+        about("promise 36");
         // left 1 at 2 and 1 not 1: at 0 one of them holds
         due("where they part", () -> x.tries(1, 0, 0), 0);
         due("one is left", () -> x.tries(1, 0, 1), 1);
@@ -803,7 +753,7 @@ public final class PromisesTest {
     }
 
     private static void rows() {
-        promise = 37;
+        about("promise 37");
         NineBars x = Boxes.told(FREE);
         due("none but one row", () -> x.rows(0, false), 1);
         due("not open", () -> x.rows(0, true), 0);
@@ -826,7 +776,7 @@ public final class PromisesTest {
     }
 
     private static void keys() {
-        promise = 38;
+        about("promise 38");
         due("open", () -> new NineBars().keys(), 0);
         due("one", () -> Boxes.told("bar 2;").keys(), 1);
         due("the other undoes it", () -> Boxes.told(FREE).keys(), -1);
@@ -841,7 +791,7 @@ public final class PromisesTest {
 
     private static void trays() {
         NineBars x = Boxes.told(FREE);
-        promise = 39;
+        about("promise 39");
         due("made", () -> tray(x, 3, 0, 40), 0);
         due("zeros", () -> x.judge(3, 1), 2);
         x.write(3, 39, 1);
@@ -855,7 +805,7 @@ public final class PromisesTest {
         refused("many", () -> tray(x, 0, 0, 41), ARGUMENT);
         refused("many", () -> tray(x, 0, 0, -1), ARGUMENT);
         refused("nothing was made", () -> x.perform(0), STATE);
-        promise = 40;
+        about("promise 40");
         long v = 0x8182838485868788L;
         long[] cut = {(byte) 0x88, (short) 0x8788, 0x85868788, v};
         for (int i = 0; i < 4; i++) {
@@ -867,7 +817,7 @@ public final class PromisesTest {
         refused("missing", () -> x.write(1, 0, 0), STATE);
         refused("place", () -> x.write(0, 1, 0), INDEX);
         refused("place", () -> x.write(0, -1, 0), INDEX);
-        promise = 41;
+        about("promise 41");
         NineBars y = Boxes.told(LOCK);
         Boxes.lay(y, 0, 0, 9, 9, 9, 9, 9, 9);
         due("poured", () -> y.pour(0), 5);
@@ -889,19 +839,19 @@ public final class PromisesTest {
         NineBars big = Boxes.told(BIG);
         big.tray(0, 0, 0);
         refused("spent", () -> big.pour(0), STATE);
-        promise = 39;
+        about("promise 39");
         Boxes.tell(y, "bar 2;");
         due("a box leaves the trays", () -> y.perform(0), 0);
     }
 
     private static void images() {
         NineBars x = Boxes.told(LOCK + "wear 2;");
-        promise = 42;
+        about("promise 42");
         x.step(1, true);
         due("made", () -> image(x, 2), 0);
         refused("none such", () -> image(x, 3), NO_SUCH);
         refused("none such", () -> image(x, -1), NO_SUCH);
-        promise = 43;
+        about("promise 43");
         x.step(1, false);
         Boxes.lay(x, 0, 0, 1);
         x.opening(-1);
@@ -927,7 +877,7 @@ public final class PromisesTest {
     }
 
     private static void counts() {
-        promise = 44;
+        about("promise 44");
         NineBars x = Boxes.told("bar 2;bar 3;rule 0 0 to 1 if 1 at 1;nested 2;wear 9;");
         x.feed(0, 0, 0, 0, 0);
         x.step(1, true);
@@ -953,7 +903,7 @@ public final class PromisesTest {
 
     /** The dearest calls, again and again, on boxes of many sizes, stay within their room. */
     private static void room() {
-        promise = 0;
+        about("room");
         com.sun.management.ThreadMXBean threads =
                 (com.sun.management.ThreadMXBean) java.lang.management.ManagementFactory.getThreadMXBean();
         long before = threads.getThreadAllocatedBytes(Thread.currentThread().getId());
