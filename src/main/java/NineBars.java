@@ -557,7 +557,6 @@ public final class NineBars {
     }
 
     private Paths toOpen() {
-        graph.prepare(told);
         toward.seek(graph, graph.openStand);
         return toward;
     }

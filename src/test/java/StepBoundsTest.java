@@ -408,6 +408,9 @@ public final class StepBoundsTest extends Check {
         due(() -> new NineBars().stops(0, true), -1);
         NineBars never = Boxes.told("bar 2;bar 2;rule 0 0 to 1 if 1 at 0 and 1 at 1;");
         due(() -> never.stops(0, true), -1);
+        // in none of its PLACES: there is no further one
+        NineBars past = Boxes.told("bar 2;bar 2;rule 0 0 to 1 if 1 not 0 and 1 not 1;");
+        due(() -> past.stops(0, true), -1);
         NineBars two = Boxes.told("bar 2;bar 2;bar 2;rule 0 0 to 1 if 1 at 1 and 2 at 1;");
         due(() -> two.stops(0, true), -1);
         NineBars worn = Boxes.told("bar 2;bar 2;rule 0 0 to 1 if 1 at 1;wear 2;");

@@ -297,6 +297,12 @@ public final class TextBoundsTest extends Check {
         good("bar2at1open0;bar2;rule0 0to1if1at0and1not1;nested2;wear99;", 5);
         good("  bar\n\n2 \n at 1\nopen  0 ; ", 1);
         bad("|barat 2;", 2);
+        bad("|car 2;", 2);
+        bad("|year 2;", 2);
+        bad("bar 2 |it 1;", 2);
+        bad(TWO + "|mule 0 0 to 1 if 1 at 0;", 2);
+        bad(TWO + "rule 0 0 |so 1 if 1 at 0;", 2);
+        bad(TWO + "rule 0 0 to 1 |of 1 at 0;", 2);
         bad("|ba r 2;", 2);
         bad("|bars 2;", 2);
         bad("|b", 2);

@@ -160,6 +160,7 @@ public final class VerseBoundsTest extends Check {
     }
 
     private static void reached() {
+        words("REACHED are STANDS to which a VERSE leads from now.");
         words("How many STANDS are REACHED (this one, too); SPENT.");
         due(() -> new NineBars().reached(), 1);
         due(() -> Boxes.told(NEVER + "rule 1 0 to 1 if 0 at 1;").reached(), 1);
@@ -171,7 +172,7 @@ public final class VerseBoundsTest extends Check {
     }
 
     private static void canBe() {
-        words("Whether a STAND is REACHED.");
+        words("Whether a STAND is REACHED. NoSuchElementException: the STAND; IllegalStateException: SPENT.");
         NineBars x = Boxes.told(Boxes.oneWay(40, 0));
         for (int p = 0; p < 64; p++) {
             int so = p;
@@ -188,7 +189,7 @@ public final class VerseBoundsTest extends Check {
     }
 
     private static void shortest() {
-        words("k NONE: how many STEPS, else STEP k; NONE: there is none, not so many.");
+        words("The SHORTEST from a STAND to another one, k NONE: how many STEPS, else STEP k; NONE: there is none, not so many.");
         NineBars x = Boxes.told(LOCK);
         long[] verse = {3, 1, 2, 1, 3};
         for (int k = -3; k <= 7; k++) {
@@ -224,7 +225,7 @@ public final class VerseBoundsTest extends Check {
     }
 
     private static void firstByNumbers() {
-        words("the VERSE with the fewest STEPS, of like ones the first by numbers.");
+        words("SHORTEST from a STAND to another one: the VERSE with the fewest STEPS, of like ones the first by numbers.");
         NineBars x = Boxes.told("bar 3 at 1;bar 3 at 1;");
         due(() -> x.shortest(4, 0, 0), 0);
         due(() -> x.shortest(4, 0, 1), 2);
@@ -246,7 +247,7 @@ public final class VerseBoundsTest extends Check {
     }
 
     private static void opening() {
-        words("The SHORTEST from now to OPEN, likewise.");
+        words("The SHORTEST from now to OPEN, likewise. IllegalStateException: SPENT (as below).");
         NineBars x = Boxes.told(LOCK);
         long[] verse = {3, 1, 2, 1, 3};
         for (int k = -3; k <= 7; k++) {
@@ -272,6 +273,9 @@ public final class VerseBoundsTest extends Check {
         due(() -> Boxes.told("bar 2;".repeat(9)).ways(), 362880);
         due(() -> Boxes.told(Boxes.oneWay(0, 63)).ways(), 1);
         due(() -> Boxes.told(Boxes.oneWay(1, 0)).ways(), 0);
+        // to stand 0, and through it
+        due(() -> Boxes.told("bar 3 at 2 open 0;bar 2 at 1 open 0;").ways(), 3);
+        due(() -> Boxes.told("bar 2 at 1 open 0;bar 2;rule 1 0 to 1 if 0 at 0;").ways(), 1);
     }
 
     private static void farthest() {
@@ -281,6 +285,11 @@ public final class VerseBoundsTest extends Check {
         due(() -> x.farthest(1), 0);
         due(() -> Boxes.told(NEVER).farthest(0), 1);
         due(() -> Boxes.told(NEVER).farthest(1), 2);
+        // from 2 one step leads to 3, one to 0, and no other one goes
+        NineBars tie = Boxes.told("bar 2;bar 2 at 1;rule 1 1 to 0 if 0 at 0;rule 0 0 to 1 if 1 at 1;");
+        due(tie::reached, 3);
+        due(() -> tie.farthest(0), 1);
+        due(() -> tie.farthest(1), 0);
         due(() -> Boxes.told(Boxes.oneWay(0, 0)).farthest(0), 63);
         due(() -> Boxes.told(Boxes.oneWay(0, 0)).farthest(1), Boxes.standOnWay(63));
         due(() -> Boxes.told(Boxes.oneWay(63, 0)).farthest(0), 0);
@@ -295,7 +304,7 @@ public final class VerseBoundsTest extends Check {
     }
 
     private static void within() {
-        words("How many STANDS are REACHED by at most n STEPS (0 to 999).");
+        words("How many STANDS are REACHED by at most n STEPS (0 to 999). IllegalStateException: SPENT; IllegalArgumentException: n.");
         NineBars x = Boxes.told(Boxes.oneWay(0, 0));
         for (int n : new int[] {0, 1, 2, 61, 62, 63, 64, 998, 999}) {
             due(() -> x.within(n), Math.min(64, n + 1));
@@ -313,7 +322,7 @@ public final class VerseBoundsTest extends Check {
     }
 
     private static void fromStart() {
-        words("Whether a VERSE leads to a STAND from where BARS stood as THE BOX was told (BARS WORN as now).");
+        words("Whether a VERSE leads to a STAND from where BARS stood as THE BOX was told (BARS WORN as now). NoSuchElementException: the STAND; IllegalStateException: SPENT.");
         NineBars x = Boxes.told(Boxes.oneWay(40, 63));
         x.step(Boxes.onWay(41, 0) != Boxes.onWay(40, 0) ? 0 : 1, true);
         x.step(0, true);
@@ -360,7 +369,7 @@ public final class VerseBoundsTest extends Check {
     }
 
     private static void oneWays() {
-        words("STEPS that GO from REACHED STANDS, but not back from there.");
+        words("STEPS that GO from REACHED STANDS, but not back from there. IllegalStateException: SPENT.");
         due(() -> new NineBars().oneWays(), 0);
         due(() -> Boxes.told(FREE).oneWays(), 0);
         due(() -> Boxes.told(Boxes.oneWay(0, 0)).oneWays(), 63);
@@ -372,7 +381,7 @@ public final class VerseBoundsTest extends Check {
     }
 
     private static void fewestOf() {
-        words("The fewest STEPS of a BAR by which it can be OPEN from now, those of all others being as many as one likes; NONE: it can't be.");
+        words("The fewest STEPS of a BAR by which it can be OPEN from now, those of all others being as many as one likes; NONE: it can't be. NoSuchElementException: the BAR; IllegalStateException: SPENT.");
         due(() -> Boxes.told("bar 2 at 1;bar 2;").fewestOf(0), 0);
         due(() -> Boxes.told("bar 2 at 1;bar 2;").fewestOf(1), 1);
         due(() -> Boxes.told("bar 2 at 1;").fewestOf(0), 0);
@@ -398,7 +407,7 @@ public final class VerseBoundsTest extends Check {
     }
 
     private static void musts() {
-        words("what 0: how many (both ends, too), 10 + k: the k-th on the way; NONE: not so many (it can't be OPEN: 0).");
+        words("STANDS through which all VERSES go that are as short as the SHORTEST from now to OPEN, what 0: how many (both ends, too), 10 + k: the k-th on the way; NONE: not so many (it can't be OPEN: 0).");
         NineBars x = Boxes.told(Boxes.oneWay(3, 63));
         due(() -> x.musts(0), 61);
         for (int k = 0; k < 61; k++) {
@@ -421,7 +430,7 @@ public final class VerseBoundsTest extends Check {
         due(() -> Boxes.told(NEVER).musts(11), -1);
         due(() -> new NineBars().musts(0), 1);
         due(() -> new NineBars().musts(10), 0);
-        words("what is neither 0 nor 10 and more.");
+        words("IllegalStateException: SPENT; IllegalArgumentException: what is neither 0 nor 10 and more.");
         for (int what : new int[] {Integer.MIN_VALUE, -1, 1, 2, 8, 9}) {
             refused(() -> free.musts(what), ARGUMENT);
             refused(() -> Boxes.told(FIRST_SPENT).musts(what), STATE);
@@ -429,7 +438,7 @@ public final class VerseBoundsTest extends Check {
     }
 
     private static void halves() {
-        words("STEPS of the SHORTEST from a STAND to that of nought, told without going through (n to 30).");
+        words("HALVES: n BARS of 2 PLACES that are all NESTED, without RULES, as bits (BAR 0 the lowest): STEPS of the SHORTEST from a STAND to that of nought, told without going through (n to 30).");
         NineBars x = new NineBars();
         for (int n = 2; n <= 9; n++) {
             int rings = n;
@@ -444,7 +453,7 @@ public final class VerseBoundsTest extends Check {
         due(() -> x.halves(30, (1 << 30) - 1), 0x2AAAAAAA);
         due(() -> x.halves(1, 0), 0);
         due(() -> x.halves(1, 1), 1);
-        words("n isn't 1 to 30, bits with others than n.");
+        words("HALVES. IllegalArgumentException: n isn't 1 to 30, bits with others than n.");
         for (int n : new int[] {Integer.MIN_VALUE, -1, 0, 31, 32, 33, 63, 64, Integer.MAX_VALUE}) {
             refused(() -> x.halves(n, 0), ARGUMENT);
             refused(() -> x.halves(n, 1), ARGUMENT);
@@ -485,6 +494,7 @@ public final class VerseBoundsTest extends Check {
     }
 
     private static void ifWorn() {
+        words("IF WORN: STEPS of the SHORTEST from now to OPEN, if some BAR were WORN, too");
         words("IF WORN; NONE: it can't be OPEN.");
         NineBars x = Boxes.told(LOCK);
         due(() -> x.ifWorn(0), 3);
@@ -492,6 +502,11 @@ public final class VerseBoundsTest extends Check {
         due(() -> Boxes.told(NEVER).ifWorn(0), 2);
         due(() -> Boxes.told(NEVER).ifWorn(1), -1);
         due(() -> Boxes.told("bar 2 at 1;").ifWorn(0), 0);
+        // both ways: down it goes, too
+        NineBars down = Boxes.told("bar 3 at 2 open 0;bar 2 at 1;rule 0 2 to 1 if 1 at 0;rule 0 1 to 0 if 1 at 0;");
+        due(() -> down.opening(-1), 4);
+        due(() -> down.ifWorn(0), 2);
+        due(() -> down.ifWorn(1), 4);
         // too: with bar 0 worn already, bar 1 as well
         NineBars two = Boxes.told("bar 2;bar 2;bar 2;rule 1 0 to 1 if 0 at 0 and 0 at 1;rule 0 0 to 1 if 2 at 0;wear 1;");
         two.step(0, true);
@@ -542,7 +557,7 @@ public final class VerseBoundsTest extends Check {
         refused(() -> first.hardest(999, 0), STATE);
         refused(() -> first.hardest(1, 6), STATE);
         refused(() -> Boxes.told("bar 4;".repeat(9)).hardest(1, 0), STATE);
-        words("6: its PLACE; NONE: there is none.");
+        words("HARDEST, what 0: STEPS, 1: the BAR, 2: from, 3: to, 4: the other BAR, 5: 1 for not, else 0, 6: its PLACE; NONE: there is none.");
         for (int what = -3; what <= 9; what++) {
             int w = what;
             dueIf(() -> new NineBars().hardest(1, w), w >= 0 && w <= 6, -1, ARGUMENT);
@@ -589,7 +604,8 @@ public final class VerseBoundsTest extends Check {
         String[] texts = {FREE, LOCK, RINGS, "bar 3 at 1;bar 3 at 1;", "bar 4 at 2 open 1;bar 2;bar 3 at 2 open 0;",
             "bar 2;bar 2;bar 2;rule 2 0 to 1 if 0 at 1;", "bar 3 at 2 open 0;bar 3 at 2 open 0;", NEVER,
             "bar 3 at 1 open 0;bar 2;bar 2 open 0;rule 1 0 to 1 if 0 at 2;rule 0 0 to 1 if 1 at 0;",
-            "bar 4 at 1 open 2;bar 3 at 1;rule 1 1 to 2 if 0 at 0;", "bar 2 open 0;bar 4 at 3 open 1;bar 2;nested 2;"};
+            "bar 4 at 1 open 2;bar 3 at 1;rule 1 1 to 2 if 0 at 0;", "bar 3;bar 3;rule 0 1 to 2 if 1 at 1;rule 1 0 to 1 if 0 not 2;",
+            "bar 3 at 2 open 0;bar 4 at 3 open 2;rule 0 1 to 2 if 1 at 3;rule 0 0 to 1 if 1 at 3;", "bar 2 open 0;bar 4 at 3 open 1;bar 2;nested 2;"};
         for (String text : texts) {
             NineBars x = Boxes.told(text);
             Model y = new Model();
@@ -637,6 +653,14 @@ public final class VerseBoundsTest extends Check {
         due(() -> nine.known(0), 1);
         Boxes.lay(nine, 0, 0, 18);
         due(() -> nine.known(0), 0);
+        // what is no step isn't bar 0 down either
+        NineBars down = Boxes.told("bar 2 at 1 open 0;");
+        for (long v : new long[] {-2, 2, 9, 64, -128}) {
+            Boxes.lay(down, 0, 0, v);
+            due(() -> down.known(0), 0);
+        }
+        Boxes.lay(down, 0, 0, 0);
+        due(() -> down.known(0), 1);
         words("of all VERSES of so many STEPS from now that end OPEN (whether it was OPEN ahead or not), how many are as told");
         NineBars open = Boxes.told("bar 2 at 1;bar 2 at 1;");
         Boxes.lay(open, 0, 0, -1, -1);
@@ -719,6 +743,22 @@ public final class VerseBoundsTest extends Check {
         due(() -> rings.keeps(2, 0), 1);
         due(() -> rings.keeps(2, 1), 0);
         due(() -> rings.keeps(2, 2), 1);
+        String[] texts = {"bar 3;bar 3;", "bar 2 open 0;bar 3;rule 1 0 to 1 if 0 at 1;rule 1 1 to 2 if 0 at 0;", "bar 4;bar 2;bar 2;nested 3;",
+            "bar 2 open 0;bar 2;bar 2 open 0;bar 2 open 0;rule 1 0 to 1 if 0 at 1;rule 1 0 to 1 if 2 at 1;rule 1 0 to 1 if 3 at 1;",
+            "bar 3 at 1 open 1;bar 4;rule 1 0 to 1 if 0 at 0;rule 1 1 to 2 if 0 at 2;rule 1 2 to 3 if 0 at 0;",
+            "bar 4 at 3 open 0;bar 3 at 2 open 0;bar 2;rule 0 1 to 0 if 2 at 1;rule 1 1 to 0 if 2 at 0;"};
+        for (String text : texts) {
+            NineBars y = Boxes.told(text);
+            Model model = new Model();
+            Boxes.tell(model, text);
+            for (int n = 1; n <= 2; n++) {
+                for (int what = 0; what <= 2; what++) {
+                    int k = n;
+                    int w = what;
+                    due(text, () -> y.keeps(k, w), model.keeps(k, w));
+                }
+            }
+        }
     }
 
     private static void keepsForty() {
@@ -855,6 +895,12 @@ public final class VerseBoundsTest extends Check {
         due(() -> x.fits(0, 0, -1), 2);
         due(() -> x.tries(0, 0, 0), 2);
         due(() -> x.tries(0, 0, 1), 1);
+        // three: 1 at 0, 1 not 1, 1 not 2: with bar 1 at 0 all go, at 1 one does
+        NineBars three = Boxes.told("bar 2;bar 3;");
+        Boxes.lay(three, 0, 0, 1);
+        due(() -> three.fits(0, 0, 0), 100);
+        due(() -> three.tries(0, 0, 0), 2);
+        due(() -> three.tries(0, 0, 1), 2);
         // two that never part: 1 at 1, 1 not 0
         NineBars two = Boxes.told("bar 2;bar 2;");
         Boxes.lay(two, 0, 0, 0);
@@ -869,7 +915,7 @@ public final class VerseBoundsTest extends Check {
             refused(() -> x.tries(0, 4, what), NO_SUCH);
             refused(() -> x.tries(0, 1, what), STATE);
         }
-        words("the STAND from which the fewest FITS are left at worst, whether it goes or not (the least such STAND).");
+        words("TRY: the STAND from which the fewest FITS are left at worst, whether it goes or not (the least such STAND).");
         NineBars last = Boxes.told("bar 2;bar 4;bar 4;");
         // didn't go from where bars 1 and 2 are at 0
         Boxes.lay(last, 0, 0, 0);
@@ -947,12 +993,29 @@ public final class VerseBoundsTest extends Check {
         }
         due(() -> Boxes.told(Boxes.oneWay(3, 63)).keys(), 60);
         due(() -> Boxes.told(Boxes.oneWay(2, 63)).keys(), -1);
+        for (int from = 0; from < 64; from++) {
+            for (int far : new int[] {1, 2, 5, 16, 31}) {
+                int p = from;
+                due(() -> Boxes.told(Boxes.oneWay(p, (p + far) % 64)).keys(), p + far < 64 ? far : -1);
+            }
+        }
+        // the other's turn is at stand 0
+        due(() -> Boxes.told("bar 2 at 1 open 0;bar 2;rule 0 0 to 1 if 1 at 1;rule 1 0 to 1 if 0 at 0;").keys(), 2);
+        words("whatever the other does");
+        // bar 0 at 1: 1 up; 0 down; 1 up; then bar 0 up opens it, but bar 1 up ends it
+        String fork = "rule 0 1 to 0 if 1 at 1;rule 0 0 to 1 if 1 at 2;rule 1 0 to 1 if 0 at 1;rule 1 1 to 2 if 0 at 0;"
+                + "rule 1 2 to 3 if 0 at 0;rule 1 1 to 0 if 0 at 0 and 0 at 1;rule 1 2 to 1 if 0 at 0 and 0 at 1;rule 1 3 to 2 if 0 at 0 and 0 at 1;";
+        due(() -> Boxes.told("bar 2 at 1 open 1;bar 4 open 2;" + fork).keys(), -1);
+        due(() -> Boxes.told("bar 2 at 1 open 1;bar 4 at 1 open 2;" + fork).keys(), 3);
+        due(() -> Boxes.told("bar 2 open 1;bar 4 at 1 open 2;" + fork).keys(), -1);
+        due(() -> Boxes.told("bar 2 open 1;bar 4 at 2 open 2;" + fork).keys(), 1);
+        due(() -> Boxes.told("bar 2 at 1 open 1;bar 4 at 1 open 2;" + fork).opening(-1), 3);
         due(() -> Boxes.told("bar 2 at 1;").keys(), 0);
         due(() -> Boxes.told("bar 2;").keys(), 1);
         due(() -> Boxes.told("bar 3;").keys(), -1);
         due(() -> Boxes.told(FREE).keys(), -1);
         due(() -> new NineBars().keys(), 0);
-        words("make a STEP by turns (one who can't passes)");
+        words("KEYS: two hold a key each, and make a STEP by turns (one who can't passes); the first wants it OPEN, the other doesn't");
         due(() -> Boxes.told(Boxes.oneWay(63, 0)).keys(), -1);
         due(() -> Boxes.told(NEVER + "rule 1 0 to 1 if 0 at 1;").keys(), -1);
         words("KEYS; NONE: not within 60.");
