@@ -5,15 +5,13 @@ import java.lang.reflect.Modifier;
 import java.nio.file.Files;
 import java.nio.file.Path;
 import java.util.ArrayList;
-import java.util.Arrays;
-import java.util.HashSet;
 import java.util.List;
 import java.util.Set;
 import java.util.TreeSet;
 import java.util.regex.Matcher;
 import java.util.regex.Pattern;
 
-/** The face as the document has it, and the rules of LANGUAGE.md that can be seen from outside. */
+/** The face as the document has it. */
 public final class FormTest {
     private static int wrong = 0;
 
@@ -25,8 +23,7 @@ public final class FormTest {
     public static void main(String[] args) throws Exception {
         Set<String> face = face(Files.readString(Path.of("../shared/DOC.md")));
         members(face);
-        classes();
-        source(Files.readString(Path.of("src/main/java/NineBars.java")));
+        headings(Files.readString(Path.of("../shared/DOC.md")), Files.readString(Path.of("src/main/java/NineBars.java")));
         System.out.println("FormTest: " + face.size() + " members of the face, " + wrong + " wrong");
         if (wrong != 0) {
             System.exit(1);
@@ -96,65 +93,26 @@ public final class FormTest {
         }
     }
 
-    private static void classes() {
-        List<Class<?>> all = new ArrayList<>(Arrays.asList(NineBars.class.getDeclaredClasses()));
-        all.add(NineBars.class);
-        Set<String> open = new HashSet<>();
-        for (Method m : NineBars.class.getDeclaredMethods()) {
-            if (Modifier.isPublic(m.getModifiers())) {
-                open.add(m.getName());
+    /** What the interface says ahead of the calls, and the calls in their order. */
+    private static void headings(String doc, String source) {
+        Matcher m = Pattern.compile("Ahead of the calls (.*?) the interface says: (---- .*?)\\.\n").matcher(doc);
+        StringBuilder want = new StringBuilder();
+        while (m.find()) {
+            want.append("// ").append(m.group(2)).append(": ").append(m.group(1).replace("`", "")).append('\n');
+        }
+        StringBuilder have = new StringBuilder();
+        for (String part : source.split("(?m)^    // (?=---- )")) {
+            List<String> calls = new ArrayList<>();
+            Matcher call = Pattern.compile("(?m)^    public \\w+ (\\w+)\\(").matcher(part);
+            while (call.find()) {
+                calls.add(call.group(1));
+            }
+            if (part.startsWith("---- ") && !calls.isEmpty()) {
+                have.append("// ").append(part, 0, part.indexOf('\n')).append(": ").append(String.join(", ", calls)).append('\n');
             }
         }
-        if (all.size() > 12) {
-            blame("more than 12 classes");
-        }
-        for (Class<?> c : all) {
-            int fields = 0;
-            for (Field f : c.getDeclaredFields()) {
-                boolean fixed = Modifier.isStatic(f.getModifiers());
-                fields += fixed ? 0 : 1;
-                if (fixed && !Modifier.isFinal(f.getModifiers())) {
-                    blame("static state: " + f);
-                }
-            }
-            if (fields > 20) {
-                blame("more than 20 fields: " + c);
-            }
-            for (Method m : c.getDeclaredMethods()) {
-                if ((c != NineBars.class || Modifier.isPrivate(m.getModifiers())) && open.contains(m.getName())) {
-                    blame("bears a public method's name: " + m);
-                }
-                if (m.getParameterCount() > 7) {
-                    blame("more than 7 parameters: " + m);
-                }
-            }
-        }
-    }
-
-    private static void source(String text) {
-        String[] none = {"try", "catch", "finally", "->", "::", "synchronized", "assert", "import static", "System.out",
-            "instanceof", "hashCode", "toString", "package ", "double", "float", "Object"};
-        String code = text.replaceAll("/\\*\\*?[^/]*\\*/", "").replaceAll("//.*", "").replaceAll("\"[^\"]*\"", "\"\"");
-        for (String word : none) {
-            String asWord = Character.isLetter(word.charAt(0)) ? "\\b" + word.strip() + "\\b" : Pattern.quote(word);
-            if (Pattern.compile(asWord).matcher(code).find()) {
-                blame("the source has " + word);
-            }
-        }
-        for (char c : text.toCharArray()) {
-            if (c > 126 || c < 32 && c != '\n') {
-                blame("the source has the sign " + (int) c);
-            }
-        }
-        int start = 0;
-        String[] lines = text.split("\n");
-        for (int i = 0; i < lines.length; i++) {
-            if (lines[i].matches(" {4}( {4})?[a-z].*\\{")) {
-                start = i;
-            }
-            if (lines[i].matches(" {4}( {4})?\\}") && i - start > 60 && !lines[start].contains("class")) {
-                blame("a long method: " + lines[start].strip());
-            }
+        if (want.length() == 0 || !have.toString().equals(want.toString())) {
+            blame("the headings are\n" + have + "due are\n" + want);
         }
     }
 }

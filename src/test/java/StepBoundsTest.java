@@ -100,7 +100,7 @@ public final class StepBoundsTest extends Check {
         due(() -> y.bar(0, 4), 1);
         Boxes.tell(y, "bar 2;wear 2;");
         due(() -> y.bar(0, 4), 0);
-        words("the BAR isn't WORN.");
+        words("(all its FACTS are so: at, not at that PLACE), and the BAR isn't WORN.");
         NineBars shut = Boxes.told("bar 2;bar 2;rule 0 0 to 1 if 1 at 0;wear 2;");
         shut.step(0, true);
         shut.step(1, true);

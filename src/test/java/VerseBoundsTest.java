@@ -670,7 +670,7 @@ public final class VerseBoundsTest extends Check {
         NineBars none = new NineBars();
         Boxes.lay(none, 0, 0, -1);
         due(() -> none.known(0), 0);
-        words("no such TRAY; IllegalStateException: it is MISSING, SPENT; IllegalArgumentException: not 1 to 40 numbers.");
+        words("KNOWN. NoSuchElementException: no such TRAY; IllegalStateException: it is MISSING, SPENT; IllegalArgumentException: not 1 to 40 numbers.");
         for (int t : NO_TRAYS) {
             refused(() -> x.known(t), NO_SUCH);
         }
@@ -708,7 +708,7 @@ public final class VerseBoundsTest extends Check {
         }
         due(() -> x.keeps(1, 0), 1);
         due(() -> x.keeps(2, 0), 2);
-        words("what 0: how many VERSES, 1: the first line, 2: the second one; NONE: no such VERSE, not so many lines, not so many kept.");
+        words("LINES TO KEEP, what 0: how many VERSES, 1: the first line, 2: the second one; NONE: no such VERSE, not so many lines, not so many kept.");
         for (int what : new int[] {Integer.MIN_VALUE, -1, 3, 4, Integer.MAX_VALUE}) {
             refused(() -> x.keeps(1, what), ARGUMENT);
             refused(() -> x.keeps(2, what), ARGUMENT);
@@ -907,7 +907,7 @@ public final class VerseBoundsTest extends Check {
         due(() -> two.fits(0, 0, -1), 2);
         due(() -> two.tries(0, 0, 0), 0);
         due(() -> two.tries(0, 0, 1), 2);
-        words("IllegalArgumentException: also another what.");
+        words("Throws likewise; IllegalArgumentException: also another what.");
         for (int what : new int[] {Integer.MIN_VALUE, -1, 2, 3, Integer.MAX_VALUE}) {
             refused(() -> x.tries(0, 0, what), ARGUMENT);
             refused(() -> two.tries(0, 0, what), ARGUMENT);
@@ -953,7 +953,7 @@ public final class VerseBoundsTest extends Check {
     }
 
     private static void rowsLost() {
-        words("as a long (what is above it is lost)");
+        words("ROWS of n STEPS (opening: those that are OPEN sometime), as a long (what is above it is lost)");
         // 9 bars that start in the middle of 3 places: k steps of one can be made in 2^((k + 1) / 2) rows
         BigInteger[] rows = {BigInteger.ONE};
         rows = Arrays.copyOf(rows, 21);
